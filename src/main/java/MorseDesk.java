@@ -1116,10 +1116,11 @@ public final class MorseDesk {
         }
 
         private void goUp(int k, boolean signed) {
-            if (!isIn(pairs.lower, k)) {
+            int whole = pairs.partner[k];
+            // The FACE in a PAIR has the lower number.
+            if (whole <= k) {
                 return;
             }
-            int whole = pairs.partner[k];
             value[whole] += signed ? -value[k] * shape.signOf(k, whole) : value[k];
         }
 
@@ -1132,7 +1133,7 @@ public final class MorseDesk {
                     ways[k] = 1L;
                 } else if (shape.dims[k] == shape.dims[from]) {
                     ways[k] = waysDown(k);
-                } else if (shape.dims[k] == shape.dims[to] && isIn(pairs.lower, k)) {
+                } else if (shape.dims[k] == shape.dims[to] && pairs.partner[k] > k) {
                     ways[k] = ways[pairs.partner[k]];
                 }
             }
