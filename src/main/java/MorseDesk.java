@@ -1290,12 +1290,13 @@ public final class MorseDesk {
                 int row = firstRow(rank, column);
                 if (row != NONE) {
                     swapRows(work, rank, row);
+                    makePositive(rank, column);
                     clearBelow(rank, column, last);
                     last = work[rank * columns + column];
                     rank++;
                 }
             }
-            minor = Math.abs(last);
+            minor = last;
             return rank;
         }
 
@@ -1315,10 +1316,21 @@ public final class MorseDesk {
             }
             for (int row = top + 1; row < rows; row++) {
                 long head = work[row * columns + column];
-                for (int j = column; j < columns; j++) {
+                // Most heads are 0 and most pivots 1: such a row stays as it is.
+                boolean changes = head != 0L || pivot != last;
+                for (int j = column; j < columns && changes; j++) {
                     int at = row * columns + j;
                     work[at] = (work[at] * pivot - head * work[top * columns + j]) / last;
                 }
+            }
+        }
+
+        private void makePositive(int row, int column) {
+            if (work[row * columns + column] > 0L) {
+                return;
+            }
+            for (int j = column; j < columns; j++) {
+                work[row * columns + j] = -work[row * columns + j];
             }
         }
 
