@@ -107,7 +107,7 @@ public final class MorseDesk {
             case 1:
                 return shape.dims[k];
             case 2:
-                return isIn(pairs.there, k) ? 1 : 0;
+                return isThere(k) ? 1 : 0;
             case 3:
                 return pairs.partner[k];
             case 4:
@@ -194,7 +194,7 @@ public final class MorseDesk {
     }
 
     public int collapse(int face) {
-        if (!shape.has(face) || !isIn(pairs.there, face)) {
+        if (!isThere(face)) {
             return NONE;
         }
         if (!isFree(face)) {
@@ -253,7 +253,7 @@ public final class MorseDesk {
     }
 
     public long chain(int critical, int k) {
-        if (!shape.has(critical) || !shape.has(k) || !pairs.isCritical(critical)) {
+        if (!isThere(critical) || !isThere(k) || !pairs.isCritical(critical)) {
             return NO_LONG;
         }
         if (shape.dims[critical] != shape.dims[k]) {
@@ -266,7 +266,7 @@ public final class MorseDesk {
     }
 
     public int root(int k, int what) {
-        if (!shape.has(k) || shape.dims[k] != 0 || !isIn(pairs.there, k) || what < 0 || what > 1) {
+        if (!isThere(k) || shape.dims[k] != 0 || what < 0 || what > 1) {
             return NONE;
         }
         int at = k;
@@ -280,7 +280,7 @@ public final class MorseDesk {
     }
 
     public long through(int from, int to, int k) {
-        if (!areEnds(from, to) || !shape.has(k) || !isIn(pairs.there, k)) {
+        if (!areEnds(from, to) || !isThere(k)) {
             return NONE;
         }
         flow.start(from);
@@ -336,7 +336,7 @@ public final class MorseDesk {
         }
         long found = 0L;
         for (int face = 0; face < shape.size; face++) {
-            if (isIn(pairs.there, face) && isFree(face)) {
+            if (isThere(face) && isFree(face)) {
                 found |= bit(face);
             }
         }
@@ -349,7 +349,7 @@ public final class MorseDesk {
         }
         long found = 0L;
         for (int top = 0; top < shape.size; top++) {
-            if (isIn(pairs.there, top) && (shape.cofaces[top] & pairs.there) == 0L) {
+            if (isThere(top) && (shape.cofaces[top] & pairs.there) == 0L) {
                 found |= bit(top);
             }
         }
@@ -357,7 +357,7 @@ public final class MorseDesk {
     }
 
     public int link(int k, int what) {
-        if (!shape.has(k) || !isIn(pairs.there, k) || what < 0 || what > 1) {
+        if (!isThere(k) || what < 0 || what > 1) {
             return NO_INT;
         }
         long found = linkOf(k);
@@ -515,8 +515,13 @@ public final class MorseDesk {
         return which == 1 ? pairs.unpaired() : pairs.there;
     }
 
+    /** What is GONE is left out everywhere but where a promise tells of it: most calls ask this first. */
+    private boolean isThere(int k) {
+        return shape.has(k) && isIn(pairs.there, k);
+    }
+
     private boolean areEnds(int from, int to) {
-        if (!shape.has(from) || !shape.has(to)) {
+        if (!isThere(from) || !isThere(to)) {
             return false;
         }
         if (shape.dims[from] != shape.dims[to] + 1) {
@@ -622,7 +627,7 @@ public final class MorseDesk {
             int joined = shape.letters[k] | shape.letters[other];
             boolean apart = (shape.letters[k] & shape.letters[other]) == 0;
             int whole = number(joined);
-            if (apart && isIn(pairs.there, other) && whole != NONE && isIn(pairs.there, whole)) {
+            if (apart && isThere(other) && isThere(whole)) {
                 found |= bit(other);
             }
         }
@@ -1364,7 +1369,7 @@ public final class MorseDesk {
         private long clearCorner(int corner) {
             for (int round = 0; round < MOST_ROUNDS; round++) {
                 int least = leastCell(corner);
-                if (least == NONE) {
+                if (least == NONE || columns <= 0) {
                     return minor;
                 }
                 swapRows(cells, corner, least / columns);

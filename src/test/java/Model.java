@@ -513,7 +513,7 @@ final class Model {
     }
 
     long chain(int critical, int k) {
-        if (!isCritical(critical) || !known(k) || dim(k) != dim(critical)) {
+        if (!isCritical(critical) || !known(k) || !there.contains(k) || dim(k) != dim(critical)) {
             return Long.MIN_VALUE;
         }
         return chainOf(critical, k);

@@ -46,6 +46,7 @@ public final class PromiseTest {
         keep();
         same();
         count();
+        gone();
         hold();
         System.out.println(wrong == 0 ? "all promises hold" : wrong + " answers are wrong");
         if (wrong != 0) {
@@ -590,6 +591,18 @@ public final class PromiseTest {
             }
             due(sum, 0);
         }
+        MorseDesk gone = of("abc");
+        due(gone.chain(4, 3), 0);
+        due(gone.collapse(3), 5);
+        due(gone.chain(4, 3), NO_LONG);
+        due(gone.chain(3, 4), NO_LONG);
+        due(gone.chain(3, 3), NO_LONG);
+        due(gone.chain(6, 6), NO_LONG);
+        due(gone.chain(4, 4), 1);
+        due(gone.chain(4, 5), 0);
+        due(gone.undo(), 0);
+        due(gone.chain(4, 3), 0);
+        due(gone.chain(3, 4), 0);
     }
 
     private static void root() {
@@ -995,6 +1008,58 @@ public final class PromiseTest {
     }
 
     /** No call throws or hangs, whatever it is given, with a complex or without. */
+    /** In "abc" the edge ab (3) and the triangle (6) are GONE: each call that takes a number, with these. */
+    private static void gone() {
+        begin(5);
+        MorseDesk desk = of("abc");
+        due(desk.pair(3, 6), 5);
+        due(desk.keep(0), 1);
+        due(desk.collapse(3), 5);
+        for (int k = 3; k <= 6; k += 3) {
+            long[] got = new long[8];
+            for (int what = 0; what < 8; what++) {
+                got[what] = desk.simplex(k, what);
+            }
+            dueAll(got, k == 3 ? 3 : 7, k == 3 ? 1 : 2, 0, -1, -1, -1, 0, -1);
+            due(desk.part(k), -1);
+            due(desk.collapse(k), -1);
+            due(desk.root(k, 0), -1);
+            due(desk.link(k, 0), NO_INT);
+            due(desk.link(k, 1), NO_INT);
+        }
+        due(desk.sign(3, 6), 1);
+        due(desk.sign(0, 3), -1);
+        due(desk.pair(3, 6), -1);
+        due(desk.pair(0, 3), -1);
+        due(desk.pair(4, 6), -1);
+        due(desk.count(7), 2);
+        goneEnds(desk, 6, 3);
+        goneEnds(desk, 6, 4);
+        goneEnds(desk, 3, 0);
+        due(desk.through(4, 0, 3), -1);
+        due(desk.through(4, 0, 6), -1);
+        due(desk.chain(4, 3), NO_LONG);
+        due(desk.same(0), 0);
+        due(desk.critical(1, -1), 2);
+        due(desk.critical(2, -1), 0);
+        due(desk.level(2, 0), 5);
+        due(desk.levelBetti(2, 1), 0);
+        due(desk.room(0), 4);
+        due(desk.room(1), 0);
+        due(desk.slack(1), 0);
+        due(desk.count(0), 7);
+        due(desk.count(1), 5);
+    }
+
+    private static void goneEnds(MorseDesk desk, int from, int to) {
+        due(desk.cancel(from, to), -1);
+        due(desk.paths(from, to), -1);
+        due(desk.path(from, to, 0, 0), -1);
+        due(desk.incidence(from, to), NO_LONG);
+        due(desk.through(from, to, 0), -1);
+        due(desk.chain(from, from), NO_LONG);
+    }
+
     private static void hold() {
         begin(36);
         int[] odd = {Integer.MIN_VALUE, -65, -3, -2, -1, 0, 1, 5, 59, 60, 63, 64, 65, 255, 256, Integer.MAX_VALUE};
