@@ -136,7 +136,7 @@ public final class MorseDesk {
     }
 
     public int pair(int face, int simplex) {
-        if (!shape.has(face) || !shape.has(simplex) || !isIn(shape.faces[simplex], face)) {
+        if (!isThere(face) || !isThere(simplex) || !isIn(shape.faces[simplex], face)) {
             return NONE;
         }
         if (!pairs.isCritical(face) || !pairs.isCritical(simplex)) {
@@ -151,7 +151,7 @@ public final class MorseDesk {
     }
 
     public int part(int k) {
-        if (!shape.has(k) || pairs.partner[k] == NONE) {
+        if (!isThere(k) || pairs.partner[k] == NONE) {
             return NONE;
         }
         history.save(pairs);
