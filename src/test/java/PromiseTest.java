@@ -1007,7 +1007,6 @@ public final class PromiseTest {
         due(of("ab,cd,bc").count(6), 1);
     }
 
-    /** No call throws or hangs, whatever it is given, with a complex or without. */
     /** In "abc" the edge ab (3) and the triangle (6) are GONE: each call that takes a number, with these. */
     private static void gone() {
         begin(5);
@@ -1060,6 +1059,7 @@ public final class PromiseTest {
         due(desk.chain(from, from), NO_LONG);
     }
 
+    /** No call throws or hangs, whatever it is given, with a complex or without. */
     private static void hold() {
         begin(36);
         int[] odd = {Integer.MIN_VALUE, -65, -3, -2, -1, 0, 1, 5, 59, 60, 63, 64, 65, 255, 256, Integer.MAX_VALUE};
