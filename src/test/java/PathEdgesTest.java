@@ -1,3 +1,5 @@
+import java.util.Arrays;
+
 /** Boundary cases of promises 14 to 21: what is CRITICAL, PATHS between, what they weigh, CHAINS, ROOTS. */
 public final class PathEdgesTest {
     private static final int NONE = MorseDesk.NONE;
@@ -231,6 +233,43 @@ public final class PathEdgesTest {
         due(desk.path(last, 7, 2, NONE), -2);
     }
 
+    /** All triangles at five points, PAIRED so that six PATHS go from abd (16) to ac (6). */
+    private static MorseDesk sixPaths() {
+        MorseDesk desk = Edges.of("abc,abd,abe,acd,ace,ade,bcd,bce,bde,cde");
+        int[][] pairs = {{7, 15}, {11, 20}, {8, 22}, {14, 23}, {9, 18}, {5, 19}};
+        for (int[] two : pairs) {
+            desk.pair(two[0], two[1]);
+        }
+        return desk;
+    }
+
+    private static int[] row(MorseDesk desk, int k) {
+        int[] row = new int[desk.path(16, 6, k, NONE)];
+        for (int i = 0; i < row.length; i++) {
+            row[i] = desk.path(16, 6, k, i);
+        }
+        return row;
+    }
+
+    static void p16_pathsInTheOrderOfTheirRows() {
+        MorseDesk desk = sixPaths();
+        due(desk.paths(16, 6), 6);
+        int[] before = {};
+        for (int k = 0; k < 6; k++) {
+            int[] row = row(desk, k);
+            due(row[0], 16);
+            due(row[row.length - 1], 6);
+            for (int i = 1; i < row.length; i++) {
+                boolean down = i % 2 == 1;
+                due(down ? Math.abs(desk.sign(row[i], row[i - 1])) : desk.simplex(row[i - 1], 3), down ? 1 : row[i]);
+            }
+            due(Arrays.compare(before, row) < 0 ? 1 : 0, 1);
+            due(desk.path(16, 6, k, row.length), -2);
+            before = row;
+        }
+        due(desk.path(16, 6, 6, 0), -2);
+    }
+
     // 17: incidence.
 
     static void p17_notSuch() {
@@ -261,6 +300,20 @@ public final class PathEdgesTest {
         // bc to c is straight; bc to b, up to ab, down to a: -1 times -(1) times -1.
         due(desk.incidence(4, 2), 1);
         due(desk.incidence(4, 0), -1);
+    }
+
+    static void p17_sixPathsTogether() {
+        MorseDesk desk = sixPaths();
+        long sum = 0;
+        for (int k = 0; k < 6; k++) {
+            int[] row = row(desk, k);
+            int weight = 1;
+            for (int i = 1; i < row.length; i++) {
+                weight *= i % 2 == 1 ? desk.sign(row[i], row[i - 1]) : -desk.sign(row[i - 1], row[i]);
+            }
+            sum += weight;
+        }
+        due(desk.incidence(16, 6), sum);
     }
 
     // 18: chain.
@@ -413,6 +466,19 @@ public final class PathEdgesTest {
         for (int k = 0; k < 7; k++) {
             int via = k;
             Edges.refused(PLAIN, desk -> desk.through(5, 0, via), 0);
+        }
+    }
+
+    static void p20_someOfSixPaths() {
+        MorseDesk desk = sixPaths();
+        long[] many = new long[25];
+        for (int k = 0; k < 6; k++) {
+            for (int via : row(desk, k)) {
+                many[via]++;
+            }
+        }
+        for (int via = 0; via < 25; via++) {
+            due(desk.through(16, 6, via), many[via]);
         }
     }
 
