@@ -10,8 +10,11 @@ public final class MorseDesk {
     public static final int NONE = -1;
 
     private static final int REFUSED = -2;
-    private static final int NO_INT = Integer.MIN_VALUE;
-    private static final long NO_LONG = Long.MIN_VALUE;
+
+    // The least int and the least long, by hand: of the library only functions are listed, not its constants.
+    private static final int NO_INT = 0x80000000;
+    private static final long NO_LONG = 0x8000000000000000L;
+
     private static final int MOST_BYTES = 160;
     private static final int FEED_BYTES = 20;
     private static final int MOST_FACETS = 24;

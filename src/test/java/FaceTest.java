@@ -26,9 +26,13 @@ public final class FaceTest {
     };
     private static final String[] FORBIDDEN = {
         "throw", "throws", "try", "catch", "synchronized", "assert", "Exact", "->", "::", "Random",
-        "System\\.(?!arraycopy)", "Thread", "java\\.(?!util\\.Arrays;)", "equals", "hashCode", "toString",
+        "Thread", "java\\.(?!util\\.Arrays;)", "equals", "hashCode", "toString",
         "protected", "volatile", "transient", "native",
     };
+    private static final Set<String> LIBRARY = Set.of(
+        "System.arraycopy", "Arrays.fill", "Arrays.copyOf", "Arrays.copyOfRange", "Integer.bitCount", "Long.bitCount",
+        "Math.abs", "Math.min", "Math.max", "Math.floorDiv", "Math.floorMod");
+    private static final int LONGEST_METHOD = 60;
     private static final List<String> wrong = new ArrayList<>();
 
     public static void main(String[] args) throws Exception {
@@ -116,5 +120,28 @@ public final class FaceTest {
                 break;
             }
         }
+        checkLibrary(code);
+        checkLengths(code);
+    }
+
+    /** Rule 4: functions of the library, and only listed ones; its constants are not listed. */
+    private static void checkLibrary(String code) {
+        Matcher m = Pattern.compile("\\b[A-Z]\\w*\\.\\w+").matcher(code);
+        while (m.find()) {
+            due(LIBRARY.contains(m.group()), "not listed: " + m.group());
+        }
+    }
+
+    /** A method begins and ends at one and the same depth: four blanks, eight in a class inside. */
+    private static void checkLengths(String code) {
+        String head = "(?m)^( {4}| {8})(?! |if |for |while |switch )[^\n]*\\) \\{\n";
+        Matcher m = Pattern.compile(head + "(?s:.*?)\n\\1\\}$").matcher(code);
+        int seen = 0;
+        while (m.find()) {
+            int lines = m.group().split("\n").length;
+            due(lines <= LONGEST_METHOD, "a method of " + lines + " lines: " + m.group().trim().split("\n")[0]);
+            seen++;
+        }
+        due(seen > FACE.length, "only " + seen + " methods were seen");
     }
 }
